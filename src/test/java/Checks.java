@@ -1,0 +1,138 @@
+/** What the tests share: answers that are due, counted and told. */
+final class Checks {
+    static int wrong = 0;
+    static int asked = 0;
+
+    private Checks() {
+    }
+
+    /** A call whose answer is tested. */
+    interface Call {
+        long answer();
+    }
+
+    static void due(String what, long got, long want) {
+        asked++;
+        if (got != want) {
+            wrong++;
+            System.out.println(what + " answered " + got + ", due is " + want);
+        }
+    }
+
+    static void due(String what, boolean got, boolean want) {
+        due(what, got ? 1L : 0L, want ? 1L : 0L);
+    }
+
+    /** Index, argument, state and element: the exceptions that the document names. */
+    static void index(String what, Call call) {
+        thrown(what, call, IndexOutOfBoundsException.class);
+    }
+
+    static void argument(String what, Call call) {
+        thrown(what, call, IllegalArgumentException.class);
+    }
+
+    static void state(String what, Call call) {
+        thrown(what, call, IllegalStateException.class);
+    }
+
+    static void element(String what, Call call) {
+        thrown(what, call, java.util.NoSuchElementException.class);
+    }
+
+    private static void thrown(String what, Call call, Class<?> want) {
+        asked++;
+        Class<?> got = null;
+        try {
+            call.answer();
+        } catch (RuntimeException e) {
+            got = e.getClass();
+        }
+        if (got != want) {
+            wrong++;
+            System.out.println(what + " threw " + got + ", due is " + want);
+        }
+    }
+
+    static void end(String test) {
+        System.out.println(test + ": " + asked + " answers, " + wrong + " not as due");
+        if (wrong != 0) {
+            System.exit(1);
+        }
+    }
+
+    // ---- an engine's scans
+
+    /** Puts a text at the end of the buffer, filled up with blanks to 20 bytes. */
+    static void put(BarcodeEngine x, String text) {
+        int[] four = new int[5];
+        for (int i = 0; i < 20; i++) {
+            int sign = i < text.length() ? text.charAt(i) : ' ';
+            four[i / 4] |= (sign & 255) << 24 - 8 * (i % 4);
+        }
+        x.append(four[0], four[1], four[2], four[3], four[4]);
+    }
+
+    static int print(BarcodeEngine x, int symbology, String text) {
+        return print(x, symbology, text, 10, 0, 0);
+    }
+
+    static int print(BarcodeEngine x, int symbology, String text, int module, int spread, int seed) {
+        put(x, text);
+        return x.print(symbology, text.length(), module, spread, seed);
+    }
+
+    static int scan(BarcodeEngine x, int... widths) {
+        for (int i = 0; i < widths.length; i += 6) {
+            int[] six = new int[6];
+            for (int k = 0; k < 6 && i + k < widths.length; k++) {
+                six[k] = widths[i + k];
+            }
+            x.addWidths(six[0], six[1], six[2], six[3], six[4], six[5]);
+        }
+        return x.endScan();
+    }
+
+    /** A scan whose widths are the digits of a text times a factor; blanks don't count, q is 50. */
+    static int scan(BarcodeEngine x, String digits, int factor) {
+        String signs = digits.replace(" ", "");
+        int[] widths = new int[signs.length()];
+        for (int i = 0; i < widths.length; i++) {
+            int sign = signs.charAt(i);
+            widths[i] = (sign == 'q' ? 50 : sign - '0') * factor;
+        }
+        return scan(x, widths);
+    }
+
+    static String whole(BarcodeEngine x, int scan, int symbology) {
+        StringBuilder text = new StringBuilder();
+        for (int i = 0; i < x.read(scan, symbology); i++) {
+            text.append((char) x.character(scan, symbology, i));
+        }
+        return text.toString();
+    }
+
+    static String part(BarcodeEngine x, int scan, int symbology, boolean tail) {
+        StringBuilder text = new StringBuilder();
+        for (int i = 0; i < x.readPart(scan, symbology, tail); i++) {
+            text.append((char) x.partCharacter(scan, symbology, tail, i));
+        }
+        return text.toString();
+    }
+
+    static String widths(BarcodeEngine x, int scan) {
+        StringBuilder text = new StringBuilder();
+        for (int i = 0; i < x.widthCount(scan); i++) {
+            text.append(i == 0 ? "" : " ").append(x.width(scan, i));
+        }
+        return text.toString();
+    }
+
+    static void same(String what, String got, String want) {
+        asked++;
+        if (!got.equals(want)) {
+            wrong++;
+            System.out.println(what + " answered \"" + got + "\", due is \"" + want + "\"");
+        }
+    }
+}
