@@ -297,9 +297,7 @@ public final class BarcodeEngine {
     public int module(int scan, int symbology)
             throws IndexOutOfBoundsException, NoSuchElementException {
         Reading reading = reading(scan, symbology);
-        requireWhole(reading);
-        modules.size = 0;
-        kinds[symbology].draw(reading.whole, modules);
+        drawWhole(kinds[symbology], reading);
         long total = modules.sum(0, modules.size - 1, 1);
         if (total <= 0) {
             return 0;
@@ -311,9 +309,7 @@ public final class BarcodeEngine {
     public int spread(int scan, int symbology)
             throws IndexOutOfBoundsException, NoSuchElementException {
         Reading reading = reading(scan, symbology);
-        requireWhole(reading);
-        modules.size = 0;
-        kinds[symbology].draw(reading.whole, modules);
+        drawWhole(kinds[symbology], reading);
         long total = modules.sum(0, modules.size - 1, 1);
         long totalOfBars = modules.sum(0, modules.size - 1, 2);
         Row row = scans[scan].row;
@@ -482,12 +478,6 @@ public final class BarcodeEngine {
         }
     }
 
-    private static void requireWhole(Reading reading) {
-        if (reading.whole.count == 0) {
-            throw new NoSuchElementException("no whole code is read");
-        }
-    }
-
     // ---- text and characters
 
     private void appendBytes(int four) {
@@ -541,7 +531,7 @@ public final class BarcodeEngine {
 
     // ---- scans, readings and votes
 
-    /** Prints what stands in modules, from the first bar on. */
+    /** Prints what stands in modules, which begins with a bar. */
     private void addPrinted(Row row, int module, int spread, int seed) {
         int state = seed;
         for (int i = 0; i < modules.size; i++) {
@@ -552,6 +542,15 @@ public final class BarcodeEngine {
             }
             row.add(Math.max(width, 1));
         }
+    }
+
+    /** Puts the modules of the whole code that is read, if there is one. */
+    private void drawWhole(Symbology kind, Reading reading) {
+        if (reading.whole.count == 0) {
+            throw new NoSuchElementException("no whole code is read");
+        }
+        modules.size = 0;
+        kind.draw(reading.whole, modules);
     }
 
     private int keepScan(Scan scan) {

@@ -104,6 +104,32 @@ final class Checks {
         return scan(x, widths);
     }
 
+    // A head of Interleaved 2 of 5 with these digits, a tail; a head of Codabar, a tail.
+
+    static int head(BarcodeEngine x, String digits) {
+        int scan = print(x, 1, digits);
+        x.cut(scan, 0, x.widthCount(scan) - 5);
+        return scan;
+    }
+
+    static int tail(BarcodeEngine x, String digits) {
+        int scan = print(x, 1, digits);
+        x.cut(scan, 4, x.widthCount(scan) - 1);
+        return scan;
+    }
+
+    static int codabarHead(BarcodeEngine x, String text) {
+        int scan = print(x, 2, text + "D");
+        x.cut(scan, 0, x.widthCount(scan) - 9);
+        return scan;
+    }
+
+    static int codabarTail(BarcodeEngine x, String text) {
+        int scan = print(x, 2, "D" + text);
+        x.cut(scan, 8, x.widthCount(scan) - 1);
+        return scan;
+    }
+
     static String whole(BarcodeEngine x, int scan, int symbology) {
         StringBuilder text = new StringBuilder();
         for (int i = 0; i < x.read(scan, symbology); i++) {

@@ -293,6 +293,12 @@ public final class ReadingsTest {
         Checks.same("a quiet zone for 9", seen(x, 0, 2), "A1B");
         set(x, 0, 44);
         Checks.same("none for 9", seen(x, 0, 2), "~1B");
+        set(x, 8, 5);
+        Checks.same("the gap is no width of the start", seen(x, 0, 2), "~1B");
+        set(x, 0, 45);
+        set(x, 16, 5);
+        set(x, 24, 49);
+        Checks.same("the gap is no width of the stop", seen(x, 0, 2), "A1~");
     }
 
     // Promise 19
@@ -468,38 +474,13 @@ public final class ReadingsTest {
         Checks.due("letters count", x.agreement(5, 6, 2), 2);
     }
 
-    /** A head of Interleaved 2 of 5 with these digits, and a tail. */
-    private static int head(BarcodeEngine x, String digits) {
-        int scan = Checks.print(x, 1, digits);
-        x.cut(scan, 0, x.widthCount(scan) - 5);
-        return scan;
-    }
-
-    private static int tail(BarcodeEngine x, String digits) {
-        int scan = Checks.print(x, 1, digits);
-        x.cut(scan, 4, x.widthCount(scan) - 1);
-        return scan;
-    }
-
-    private static int codabarHead(BarcodeEngine x, String text) {
-        int scan = Checks.print(x, 2, text + "D");
-        x.cut(scan, 0, x.widthCount(scan) - 9);
-        return scan;
-    }
-
-    private static int codabarTail(BarcodeEngine x, String text) {
-        int scan = Checks.print(x, 2, "D" + text);
-        x.cut(scan, 8, x.widthCount(scan) - 1);
-        return scan;
-    }
-
     // Promise 23
     private static void overlap() {
         BarcodeEngine x = new BarcodeEngine();
-        int h = head(x, "121212");
-        int t = tail(x, "1212");
-        int u = tail(x, "2134");
-        int v = tail(x, "34");
+        int h = Checks.head(x, "121212");
+        int t = Checks.tail(x, "1212");
+        int u = Checks.tail(x, "2134");
+        int v = Checks.tail(x, "34");
         int w = Checks.print(x, 1, "34");
         int b = Checks.scan(x, "q 1111 3113111133 1333111131 99 3113111133 1333111131 311 q", 10);
         Checks.same("a head", seen(x, h, 1), "121212~");
@@ -514,12 +495,12 @@ public final class ReadingsTest {
         Checks.due("a whole code is no head", x.overlap(w, t, 1), -1);
         Checks.due("of the same scan", x.overlap(b, b, 1), 4);
         Checks.due("in another symbology", x.overlap(h, t, 0), -1);
-        int c = codabarHead(x, "A1231");
-        int d = codabarTail(x, "123B");
-        int e = codabarTail(x, "2312B");
+        int c = Checks.codabarHead(x, "A1231");
+        int d = Checks.codabarTail(x, "123B");
+        int e = Checks.codabarTail(x, "2312B");
         Checks.due("greatest overlap", x.overlap(c, d, 2), 1);
         Checks.due("greatest overlap", x.overlap(c, e, 2), 3);
-        int f = codabarHead(x, "C23123");
+        int f = Checks.codabarHead(x, "C23123");
         Checks.due("greatest overlap", x.overlap(f, e, 2), 2);
         Checks.due("greatest overlap", x.overlap(f, d, 2), 3);
     }
@@ -610,30 +591,30 @@ public final class ReadingsTest {
             Checks.index("place " + place, () -> x.mergedCharacter(h, t, 0, place));
         }
         BarcodeEngine y = new BarcodeEngine();
-        int a = head(y, "123456");
-        int b = tail(y, "345678");
-        int c = tail(y, "6789");
-        int d = tail(y, "5678");
+        int a = Checks.head(y, "123456");
+        int b = Checks.tail(y, "345678");
+        int c = Checks.tail(y, "6789");
+        int d = Checks.tail(y, "5678");
         Checks.same("overlap of 4", merged(y, a, b, 1), "12345678");
         Checks.same("overlap of 2", merged(y, a, d, 1), "12345678");
         Checks.due("overlap of 1 is too little", y.mergedLength(a, c, 1), 0);
-        int e = head(y, "121212");
-        int f = tail(y, "121212");
+        int e = Checks.head(y, "121212");
+        int f = Checks.tail(y, "121212");
         Checks.same("overlap of 6", merged(y, e, f, 1), "121212");
         // An odd overlap would make an odd length: 12121 is no code, 11 would be with 2.
-        int g = head(y, "1111");
-        int i = tail(y, "111111");
+        int g = Checks.head(y, "1111");
+        int i = Checks.tail(y, "111111");
         Checks.same("overlap of 4", merged(y, g, i, 1), "111111");
-        int j = head(y, "9111");
+        int j = Checks.head(y, "9111");
         Checks.same("overlap of 2, not of 3", merged(y, j, i, 1), "91111111");
-        int k = head(y, "12345678901234");
-        int l = tail(y, "34567890");
-        int m = tail(y, "345678");
+        int k = Checks.head(y, "12345678901234");
+        int l = Checks.tail(y, "34567890");
+        int m = Checks.tail(y, "345678");
         Checks.due("length 20 is none", y.mergedLength(k, l, 1), 0);
         Checks.due("length 18 is none", y.mergedLength(k, m, 1), 0);
-        int n = tail(y, "90123456");
+        int n = Checks.tail(y, "90123456");
         Checks.due("length 16 is none", y.mergedLength(k, n, 1), 0);
-        int o = tail(y, "901234");
+        int o = Checks.tail(y, "901234");
         Checks.same("length 14", merged(y, k, o, 1), "12345678901234");
         Checks.due("no symbology of theirs", y.mergedLength(a, b, 2), 0);
         mergedCodabar();
@@ -641,20 +622,20 @@ public final class ReadingsTest {
 
     private static void mergedCodabar() {
         BarcodeEngine x = new BarcodeEngine();
-        int h = codabarHead(x, "A12345");
-        int t = codabarTail(x, "4567B");
-        int u = codabarTail(x, "5678B");
-        int v = codabarTail(x, "45B");
+        int h = Checks.codabarHead(x, "A12345");
+        int t = Checks.codabarTail(x, "4567B");
+        int u = Checks.codabarTail(x, "5678B");
+        int v = Checks.codabarTail(x, "45B");
         Checks.same("overlap of 2", merged(x, h, t, 2), "A1234567B");
         Checks.due("overlap of 1", x.mergedLength(h, u, 2), 0);
         Checks.same("overlap of 2", merged(x, h, v, 2), "A12345B");
-        int w = codabarHead(x, "A123456789");
-        int y = codabarTail(x, "8901234B");
+        int w = Checks.codabarHead(x, "A123456789");
+        int y = Checks.codabarTail(x, "8901234B");
         Checks.same("length 16", merged(x, w, y, 2), "A12345678901234B");
-        int z = codabarTail(x, "89012345C");
+        int z = Checks.codabarTail(x, "89012345C");
         Checks.due("length 17 is none", x.mergedLength(w, z, 2), 0);
-        int p = codabarHead(x, "A1111111111");
-        int q = codabarTail(x, "1111111B");
+        int p = Checks.codabarHead(x, "A1111111111");
+        int q = Checks.codabarTail(x, "1111111B");
         Checks.same("greatest overlap", merged(x, p, q, 2), "A1111111111B");
     }
 
@@ -673,7 +654,7 @@ public final class ReadingsTest {
             Checks.index("bestScan", () -> x.bestScan(symbology));
         }
         Checks.element("no scan", () -> x.bestScan(1));
-        head(x, "1234");
+        Checks.head(x, "1234");
         Checks.element("no whole code", () -> x.bestScan(1));
         for (int i = 0; i < 4; i++) {
             Checks.scan(x, "q 1111 3113111133 311 q", 10);
@@ -692,5 +673,11 @@ public final class ReadingsTest {
         x.setWidth(4, 7, 11);
         Checks.due("the other one", x.bestScan(1), 4);
         Checks.element("another symbology", () -> x.bestScan(0));
+        BarcodeEngine y = new BarcodeEngine();
+        Checks.print(y, 1, "12", 40, 0, 0);
+        Checks.print(y, 1, "12", 40, 0, 0);
+        y.setWidth(0, 5, 119);
+        Checks.due("confidence 99", y.confidence(0, 1, 0), 99);
+        Checks.due("confidence 100 is best", y.bestScan(1), 1);
     }
 }

@@ -49,32 +49,6 @@ public final class VotesTest {
         Checks.element("worstScan without a length", () -> x.worstScan(0));
     }
 
-    // ---- parts of Interleaved 2 of 5 and Codabar
-
-    private static int head(BarcodeEngine x, String digits) {
-        int scan = Checks.print(x, 1, digits);
-        x.cut(scan, 0, x.widthCount(scan) - 5);
-        return scan;
-    }
-
-    private static int tail(BarcodeEngine x, String digits) {
-        int scan = Checks.print(x, 1, digits);
-        x.cut(scan, 4, x.widthCount(scan) - 1);
-        return scan;
-    }
-
-    private static int codabarHead(BarcodeEngine x, String text) {
-        int scan = Checks.print(x, 2, text + "D");
-        x.cut(scan, 0, x.widthCount(scan) - 9);
-        return scan;
-    }
-
-    private static int codabarTail(BarcodeEngine x, String text) {
-        int scan = Checks.print(x, 2, "D" + text);
-        x.cut(scan, 8, x.widthCount(scan) - 1);
-        return scan;
-    }
-
     private static int eanPart(BarcodeEngine x, String digits, boolean isTail) {
         int scan = Checks.print(x, 0, digits);
         x.cut(scan, isTail ? 24 : 0, isTail ? 44 : 20);
@@ -126,6 +100,23 @@ public final class VotesTest {
         Checks.due("98 for 16, 101 for 4", y.length(2), 4);
         y.removeScan(0);
         Checks.due("98 for 16", y.length(2), 16);
+        lengthOfEqualSupports();
+    }
+
+    private static void lengthOfEqualSupports() {
+        BarcodeEngine x = new BarcodeEngine();
+        Checks.print(x, 2, "A12B");
+        for (int i = 1; i <= 2; i++) {
+            Checks.print(x, 2, "C123D", 40, 0, 0);
+            x.setWidth(i, 1, 80);
+        }
+        Checks.due("102 for 5", x.length(2), 5);
+        for (int index : new int[] {4, 6, 7}) {
+            x.setWidth(2, index, index == 4 ? 119 : 120);
+        }
+        Checks.due("confidence 50", x.confidence(1, 2, 0), 50);
+        Checks.due("confidence 49", x.confidence(2, 2, 0), 49);
+        Checks.due("51 and 50 for 5, 101 for 4", x.length(2), 4);
     }
 
     private static void lengthOfParts() {
@@ -152,7 +143,7 @@ public final class VotesTest {
         Checks.same("a head", Checks.part(z, 0, 1, false), "1223");
         Checks.same("a tail", Checks.part(z, 0, 1, true), "1223");
         Checks.due("of the same scan", z.length(1), 0);
-        tail(z, "2345");
+        Checks.tail(z, "2345");
         Checks.due("of two scans", z.length(1), 6);
         Checks.same("their votes", votes(z, 1), "1223??");
         Checks.print(z, 1, "98");
@@ -162,44 +153,44 @@ public final class VotesTest {
 
     private static void lengthOfPairsOfParts() {
         BarcodeEngine x = new BarcodeEngine();
-        head(x, "123456");
-        tail(x, "5678");
+        Checks.head(x, "123456");
+        Checks.tail(x, "5678");
         Checks.due("overlap of 2", x.length(1), 8);
-        tail(x, "34567890");
+        Checks.tail(x, "34567890");
         Checks.due("the greatest overlap, of 4", x.length(1), 10);
-        tail(x, "345698");
+        Checks.tail(x, "345698");
         Checks.due("of several the lowest tail", x.length(1), 10);
         x.removeScan(2);
         Checks.due("the other one", x.length(1), 8);
-        head(x, "12123456");
+        Checks.head(x, "12123456");
         Checks.due("of several the lowest head", x.length(1), 8);
         x.removeScan(0);
         Checks.due("the other one", x.length(1), 10);
         BarcodeEngine y = new BarcodeEngine();
         // Lowest head before lowest tail: heads 1 and 2, tails 0 and 3, all with overlaps of 2.
-        tail(y, "9876");
-        head(y, "1212");
-        head(y, "3498");
-        tail(y, "121234");
+        Checks.tail(y, "9876");
+        Checks.head(y, "1212");
+        Checks.head(y, "3498");
+        Checks.tail(y, "121234");
         Checks.due("overlap of 4 of head 1 and tail 3", y.length(1), 6);
         y.removeScan(3);
         Checks.due("head 2 and tail 0", y.length(1), 6);
-        tail(y, "12345678");
+        Checks.tail(y, "12345678");
         Checks.due("head 1 and tail 3", y.length(1), 10);
         y.removeScan(1);
         Checks.due("head 2 and tail 0 again", y.length(1), 6);
         // Codabar: an overlap of 1 is too little; the length must be one that a code can have.
         BarcodeEngine z = new BarcodeEngine();
-        codabarHead(z, "A1234");
-        codabarTail(z, "4567B");
+        Checks.codabarHead(z, "A1234");
+        Checks.codabarTail(z, "4567B");
         Checks.due("overlap of 1", z.length(2), 0);
-        codabarTail(z, "34567B");
+        Checks.codabarTail(z, "34567B");
         Checks.due("overlap of 2", z.length(2), 9);
         BarcodeEngine w = new BarcodeEngine();
-        codabarHead(w, "A12345678901234");
-        codabarTail(w, "3456789B");
+        Checks.codabarHead(w, "A12345678901234");
+        Checks.codabarTail(w, "3456789B");
         Checks.due("length 21", w.length(2), 0);
-        codabarTail(w, "234B");
+        Checks.codabarTail(w, "234B");
         Checks.due("length 16", w.length(2), 16);
         Checks.same("their votes", votes(w, 2), "A1234567????234B");
     }
@@ -239,10 +230,10 @@ public final class VotesTest {
     private static void weightOfParts() {
         BarcodeEngine x = new BarcodeEngine();
         Checks.print(x, 1, "123456");
-        head(x, "1278");
-        tail(x, "9956");
-        head(x, "12345678");
-        tail(x, "90123456");
+        Checks.head(x, "1278");
+        Checks.tail(x, "9956");
+        Checks.head(x, "12345678");
+        Checks.tail(x, "90123456");
         Checks.due("length", x.length(1), 6);
         Checks.due("two votes", x.weight(1, 0, '1'), 202);
         Checks.due("the head votes", x.weight(1, 2, '7'), 101);
@@ -252,8 +243,8 @@ public final class VotesTest {
         Checks.due("all", x.weight(1, 3, -1), 303);
         Checks.due("the tail votes", x.weight(1, 5, '6'), 202);
         Checks.due("longer parts don't", x.weight(1, 5, -1), 202);
-        head(x, "123457");
-        tail(x, "223456");
+        Checks.head(x, "123457");
+        Checks.tail(x, "223456");
         Checks.due("a head of the length", x.weight(1, 5, '7'), 101);
         Checks.due("a tail of the length", x.weight(1, 0, '2'), 101);
         // Whole codes of other lengths don't vote.
@@ -525,6 +516,17 @@ public final class VotesTest {
         Checks.due("shares are rounded down to 66", x.winner(), 1);
         x.setWidth(1, 10, 19);
         Checks.due("101 of 157", x.winner(), 2);
+        // One digit of confidence 0 has the weight 1: a share of 99.
+        BarcodeEngine y = new BarcodeEngine();
+        Checks.print(y, 0, "00000000");
+        Checks.print(y, 2, "A1B");
+        Checks.due("of equal ones the lowest one", y.winner(), 0);
+        Checks.print(y, 0, "00000000");
+        for (int i = 4; i < 8; i++) {
+            y.setWidth(2, i, 10);
+        }
+        Checks.due("weight 1", y.weight(0, 0, '1'), 1);
+        Checks.due("101 of 102", y.winner(), 2);
     }
 
     // Promise 37
@@ -546,11 +548,11 @@ public final class VotesTest {
         Checks.due("of several the lowest one", x.worstScan(1), 4);
         x.removeScan(4);
         Checks.due("the other one", x.worstScan(1), 6);
-        head(x, "9999");
+        Checks.head(x, "9999");
         Checks.due("a head is none", x.worstScan(1), 6);
         BarcodeEngine y = new BarcodeEngine();
-        head(y, "1234");
-        tail(y, "3456");
+        Checks.head(y, "1234");
+        Checks.tail(y, "3456");
         Checks.due("length", y.length(1), 6);
         Checks.element("no whole code", () -> y.worstScan(1));
     }
