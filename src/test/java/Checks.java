@@ -146,6 +146,46 @@ final class Checks {
         return text.toString();
     }
 
+    /** What is read from a scan: the whole code, or head~tail; with < in front if in reverse. */
+    static String seen(BarcodeEngine x, int scan, int symbology) {
+        String head = part(x, scan, symbology, false);
+        String tail = part(x, scan, symbology, true);
+        String parts = head.isEmpty() && tail.isEmpty() ? "" : head + "~" + tail;
+        return (x.isReversed(scan, symbology) ? "<" : "") + whole(x, scan, symbology) + parts;
+    }
+
+    /** Asks what is read from a row of widths, told in units of 10. */
+    static void sees(int symbology, String modules, String want) {
+        if (modules.replace(" ", "").length() % 2 == 0) {
+            same("row " + modules, "an even number of widths", want);
+            return;
+        }
+        BarcodeEngine x = new BarcodeEngine();
+        scan(x, modules, 10);
+        same("row " + modules, seen(x, 0, symbology), want);
+    }
+
+    static String backwards(String modules) {
+        return new StringBuilder(modules).reverse().toString();
+    }
+
+    /** The characters of the majorities, ? where there is none. */
+    static String votes(BarcodeEngine x, int symbology) {
+        StringBuilder text = new StringBuilder();
+        for (int i = 0; i < x.length(symbology); i++) {
+            int voted = x.voted(symbology, i);
+            text.append(voted == BarcodeEngine.NONE ? '?' : (char) voted);
+        }
+        return text.toString();
+    }
+
+    /** Sets widths of a scan, from an index on. */
+    static void set(BarcodeEngine x, int scan, int index, int... widths) {
+        for (int i = 0; i < widths.length; i++) {
+            x.setWidth(scan, index + i, widths[i]);
+        }
+    }
+
     static String widths(BarcodeEngine x, int scan) {
         StringBuilder text = new StringBuilder();
         for (int i = 0; i < x.widthCount(scan); i++) {

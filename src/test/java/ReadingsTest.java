@@ -31,29 +31,15 @@ public final class ReadingsTest {
     }
 
     private static String backwards(String modules) {
-        return new StringBuilder(modules).reverse().toString();
-    }
-
-    /** What is read from a row, in units of 10: the whole code, or head~tail; < if in reverse. */
-    private static String seen(int symbology, String modules) {
-        BarcodeEngine x = new BarcodeEngine();
-        if (modules.replace(" ", "").length() % 2 == 0) {
-            return "an even number of widths";
-        }
-        Checks.scan(x, modules, 10);
-        return seen(x, 0, symbology);
+        return Checks.backwards(modules);
     }
 
     private static String seen(BarcodeEngine x, int scan, int symbology) {
-        String whole = Checks.whole(x, scan, symbology);
-        String head = Checks.part(x, scan, symbology, false);
-        String tail = Checks.part(x, scan, symbology, true);
-        String parts = head.isEmpty() && tail.isEmpty() ? "" : head + "~" + tail;
-        return (x.isReversed(scan, symbology) ? "<" : "") + whole + parts;
+        return Checks.seen(x, scan, symbology);
     }
 
     private static void sees(int symbology, String modules, String want) {
-        Checks.same("row " + modules, seen(symbology, modules), want);
+        Checks.sees(symbology, modules, want);
     }
 
     /** The indices of all reading calls. */

@@ -56,12 +56,7 @@ public final class VotesTest {
     }
 
     private static String votes(BarcodeEngine x, int symbology) {
-        StringBuilder text = new StringBuilder();
-        for (int i = 0; i < x.length(symbology); i++) {
-            int voted = x.voted(symbology, i);
-            text.append(voted == BarcodeEngine.NONE ? '?' : (char) voted);
-        }
-        return text.toString();
+        return Checks.votes(x, symbology);
     }
 
     // Promise 29
