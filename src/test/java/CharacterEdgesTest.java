@@ -31,6 +31,7 @@ public final class CharacterEdgesTest {
         eanNearThreeSevenths();
         eanGreatestWidths();
         eanConfidence();
+        eanConfidenceRoundedDown();
         tooAlikeToBeRead();
         moreThanTheMiddle();
         onlySomeWidthsTogether();
@@ -396,6 +397,24 @@ public final class CharacterEdgesTest {
         Checks.due("a + c = 599", x.character(0, 0, 0), '8');
     }
 
+    // S = 14,000, so that 200 * r / S is a little less than a whole number.
+    private static void eanConfidenceRoundedDown() {
+        int[][] widths = {{4999, 4000, 4000, 1001, 1}, {4500, 4000, 4000, 1500, 50}, {4499, 4000, 4000, 1501, 51},
+            {4501, 4000, 4000, 1499, 50}, {4509, 4000, 4000, 1491, 50}, {4510, 4000, 4000, 1490, 49},
+            {3001, 4000, 4000, 2999, 1}, {3000, 4000, 4000, 3000, 0}, {4000, 4000, 4999, 1001, 1},
+            {4000, 4000, 3001, 2999, 1}, {4000, 4000, 3000, 3000, 0}, {4010, 4000, 4000, 1990, 99},
+            {4009, 4000, 4000, 1991, 100}};
+        BarcodeEngine x = new BarcodeEngine();
+        Checks.print(x, 0, EAN_CODE, 40, 0, 0);
+        for (int[] w : widths) {
+            Checks.set(x, 0, 4, w[0], w[1], w[2], w[3]);
+            String what = w[0] + " " + w[1] + " " + w[2] + " " + w[3];
+            Checks.due("read of " + what, x.read(0, 0), 8);
+            Checks.due("digit of " + what, x.read(0, 0) == 8 ? x.character(0, 0, 0) : NONE, '1');
+            Checks.due("confidence of " + what, x.read(0, 0) == 8 ? x.confidence(0, 0, 0) : NONE, w[4]);
+        }
+    }
+
     // The greatest and the least widths, alone.
     private static void eanGreatestWidths() {
         BarcodeEngine x = new BarcodeEngine();
@@ -572,6 +591,7 @@ public final class CharacterEdgesTest {
             {100, 100, 100, 300, 299, 99}, {100, 100, 100, 299, 300, 99}, {100, 101, 100, 300, 300, 99},
             {101, 100, 100, 300, 300, 99}, {100, 100, 101, 300, 300, 99}, {1, 1, 1, 10000, 10000, 100},
             {100, 100, 100, 150, 150, 50}, {100, 100, 100, 151, 151, 50}, {100, 100, 100, 152, 152, 51},
+            {100, 100, 100, 306, 306, 100}, {100, 100, 100, 307, 307, 100}, {100, 100, 100, 310, 310, 100},
             {1000, 999, 1000, 2999, 3001, 99}, {1000, 1000, 1000, 3000, 3001, 100}};
         for (int[] w : widths) {
             String what = w[0] + " " + w[1] + " " + w[2] + " " + w[3] + " " + w[4];

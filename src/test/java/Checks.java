@@ -3,7 +3,26 @@ final class Checks {
     static int wrong = 0;
     static int asked = 0;
 
+    private static final long MOST_SECONDS = 600;
+
+    static {
+        Thread watch = new Thread(Checks::endAfterMostSeconds);
+        watch.setDaemon(true);
+        watch.start();
+    }
+
     private Checks() {
+    }
+
+    /** A call that does not end is to fail its test, not to keep it waiting. */
+    private static void endAfterMostSeconds() {
+        try {
+            Thread.sleep(1000 * MOST_SECONDS);
+        } catch (InterruptedException e) {
+            return;
+        }
+        System.out.println("a call does not end");
+        Runtime.getRuntime().halt(1);
     }
 
     /** A call whose answer is tested. */

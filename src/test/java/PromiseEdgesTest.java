@@ -46,6 +46,7 @@ public final class PromiseEdgesTest {
         overlap();
         module();
         spread();
+        moduleAndSpreadInReverse();
         spreadOfGreatWidths();
         mergedEan();
         mergedOthers();
@@ -778,6 +779,30 @@ public final class PromiseEdgesTest {
         Checks.due("in reverse", x.spread(0, 1), (int) (100.0 * bars / 243));
     }
 
+    // Promises 24 and 25 of a code that does not stand in the middle of its scan, in reverse
+    private static void moduleAndSpreadInReverse() {
+        BarcodeEngine x = new BarcodeEngine();
+        Checks.scan(x, "4 3 q 1111 3113111133 311 q 2 2 2 4", 10);
+        Checks.scan(x, "q 1111 3113111133 311 q 9 9 9 9", 10);
+        for (int scan = 0; scan < 2; scan++) {
+            for (int turn = 0; turn < 2; turn++) {
+                Checks.same("the code", Checks.seen(x, scan, 1), turn == 0 ? "12" : "<12");
+                Checks.due("module", x.module(scan, 1), 1000);
+                Checks.due("spread", x.spread(scan, 1), 0);
+                x.reverse(scan);
+            }
+        }
+        // The first bar and the last one are those of the code.
+        x.setWidth(0, 3, 20);
+        Checks.due("the first bar counts: 100 * 280 / 27", x.module(0, 1), 1037);
+        x.setWidth(0, 19, 20);
+        Checks.due("the last bar counts: 100 * 290 / 27", x.module(0, 1), 1074);
+        int spread = x.spread(0, 1);
+        x.reverse(0);
+        Checks.due("in reverse", x.module(0, 1), 1074);
+        Checks.due("in reverse", x.spread(0, 1), spread);
+    }
+
     // Promise 25, with sums that do not fit into 32 bits
     private static void spreadOfGreatWidths() {
         BarcodeEngine x = new BarcodeEngine();
@@ -796,6 +821,17 @@ public final class PromiseEdgesTest {
         Checks.due("module", x.module(0, 2), 100 * w / t);
         Checks.due("spread", x.spread(0, 2), Math.floorDiv(100 * (40 * u * t - w * u), 64 * t));
         Checks.due("it is negative", x.spread(0, 2) < 0, true);
+        // Bars as wide as they can be, spaces as narrow: B = 540,000, W = 560,063, T = 223, U = 152, n = 64, and
+        // 100 * (B * T - W * U) is 3,529,042,400.
+        BarcodeEngine y = new BarcodeEngine();
+        Checks.print(y, 2, "A++++++++++++++B", 10, 0, 0);
+        for (int i = 1; i < 128; i++) {
+            boolean isWide = y.width(0, i) == 30;
+            y.setWidth(0, i, i % 2 == 1 ? (isWide ? 10000 : 5000) : isWide ? 5001 : 1);
+        }
+        Checks.same("a code of great bars", Checks.whole(y, 0, 2), "A++++++++++++++B");
+        Checks.due("100 * 560,063 / 223", y.module(0, 2), 251149);
+        Checks.due("3,529,042,400 / (64 * 223)", y.spread(0, 2), 247270);
     }
 
     // Promise 26: "in EAN-8 8, if both have 4 digits"; "0 if there is no such head or tail, or they make no
@@ -887,6 +923,9 @@ public final class PromiseEdgesTest {
         Checks.due("52 is more", x.bestScan(2), 3);
         x.setWidth(3, 17, 80);
         Checks.due("the least one counts", x.bestScan(2), 2);
+        x.setWidth(2, 1, 80);
+        Checks.print(x, 2, "A12B");
+        Checks.due("of any length", x.bestScan(2), 4);
         BarcodeEngine y = new BarcodeEngine();
         Checks.print(y, 0, "12345670");
         Checks.set(y, 0, 4, 10, 10, 10, 10);
@@ -971,6 +1010,16 @@ public final class PromiseEdgesTest {
         BarcodeEngine z = new BarcodeEngine();
         Checks.scan(z, "q 111 2221 2122 q 1114 1312 3211 111 q", 10);
         Checks.due("no votes", z.runnerUp(0, 3), NONE);
+        // The least weight is 1.
+        BarcodeEngine w = printed(0, "00000000", "12345670");
+        Checks.set(w, 1, 4, 10, 10, 10, 10);
+        Checks.due("weight 1", w.weight(0, 0, '1'), 1);
+        Checks.due("it is second", w.runnerUp(0, 0), '1');
+        w.removeScan(0);
+        Checks.due("it is first", w.runnerUp(0, 0), NONE);
+        Checks.print(w, 0, "22345670");
+        Checks.set(w, 1, 4, 3, 3, 3, 5);
+        Checks.due("it is second again", w.runnerUp(0, 0), '1');
     }
 
     // Promise 33: 0 to 3, the first problem
@@ -1095,6 +1144,19 @@ public final class PromiseEdgesTest {
             Checks.due("66 and 66", x.winner(), 0);
         }
         roundedShares();
+        sharesOf99And100();
+    }
+
+    private static void sharesOf99And100() {
+        // 101 of 102 is 99, and 101 of 101 is 100.
+        BarcodeEngine x = printed(0, "00000000", "00000000");
+        Checks.set(x, 1, 4, 10, 10, 10, 10);
+        Checks.due("weight 1", x.weight(0, 0, '1'), 1);
+        Checks.due("EAN-8 alone", x.winner(), 0);
+        Checks.print(x, 2, "A1B");
+        Checks.due("99 and 100", x.winner(), 2);
+        x.removeScan(1);
+        Checks.due("100 and 100", x.winner(), 0);
     }
 
     private static void roundedShares() {
@@ -1112,6 +1174,16 @@ public final class PromiseEdgesTest {
                 Checks.due("66 and 101 with " + c[2], x.winner(), c[3] == NONE ? other : c[3]);
             }
         }
+        // The other way round: 101 of 153 in Interleaved 2 of 5, and 202 of 303 in Codabar.
+        BarcodeEngine y = printed(2, "A1B", "A1B", "A2B");
+        Checks.print(y, 1, "12", 40, 0, 0);
+        Checks.print(y, 1, "52", 40, 0, 0);
+        y.setWidth(4, 7, 79);
+        Checks.due("weight", y.weight(1, 0, '5'), 52);
+        Checks.due("66 and 66", y.winner(), 1);
+        y.setWidth(4, 7, 77);
+        Checks.due("weight", y.weight(1, 0, '5'), 54);
+        Checks.due("65 and 66", y.winner(), 2);
     }
 
     // Promise 37: "the one with the most characters that do not have the majority at their places, of
@@ -1130,6 +1202,10 @@ public final class PromiseEdgesTest {
         Checks.print(x, 2, "D1234567C");
         Checks.codabarHead(x, "D44");
         Checks.due("of the length of the symbology", x.worstScan(2), 6);
+        x.removeScan(6);
+        x.removeScan(5);
+        Checks.print(x, 2, "D9C");
+        Checks.due("no shorter code, though three differ", x.worstScan(2), 3);
         BarcodeEngine y = printed(2, "A1B", "A2B");
         Checks.due("no majority: it counts for both", y.worstScan(2), 0);
         Checks.print(y, 2, "C2B");

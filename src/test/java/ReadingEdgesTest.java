@@ -26,6 +26,8 @@ public final class ReadingEdgesTest {
         quietStop();
         quietInFrontAndBehind();
         quietUpTo10000();
+        gapsAreNoPartOfALetter();
+        beginningsAndEndsAreBars();
         interleavedStop();
         codabarStartAndStop();
         oneToSevenPairs();
@@ -162,6 +164,40 @@ public final class ReadingEdgesTest {
         sees(0, new int[][] {{41, 2001}, {42, 2001}, {43, 2001}, {44, 10000}}, "1234~");
         sees(1, new int[][] {{1, 1}, {2, 1}, {3, 2}, {4, 2}, {0, 5}}, "1234");
         sees(1, new int[][] {{1, 1}, {2, 1}, {3, 2}, {4, 2}, {0, 4}}, "~1234");
+    }
+
+    // The gap belongs neither to the start nor to the stop, but all seven widths of a letter do.
+    private static void gapsAreNoPartOfALetter() {
+        sees(2, new int[][] {{8, 30}, {0, 200}}, "A12B");
+        sees(2, new int[][] {{8, 30}, {0, 199}}, "~12B");
+        sees(2, new int[][] {{24, 30}, {32, 200}}, "A12B");
+        sees(2, new int[][] {{24, 30}, {32, 199}}, "A12~");
+        BarcodeEngine x = new BarcodeEngine();
+        Checks.print(x, 2, "D1A", 40, 0, 0);
+        for (int index : new int[] {1, 2, 3, 7, 17, 18, 21, 23}) {
+            x.setWidth(0, index, 31);
+            int space = index < 8 ? 0 : 24;
+            x.setWidth(0, space, 155);
+            Checks.same("a quiet zone for 31 at " + index, Checks.seen(x, 0, 2), "D1A");
+            x.setWidth(0, space, 154);
+            Checks.same("none for 31 at " + index, Checks.seen(x, 0, 2), space == 0 ? "~1A" : "D1~");
+            x.setWidth(0, space, 400);
+            x.setWidth(0, index, 40);
+        }
+    }
+
+    // "A beginning is a bar", "An end is a bar": the same widths with a space first are nothing.
+    private static void beginningsAndEndsAreBars() {
+        String[] wholes = {EAN, "1111 3113111133 311", A + 1 + ONE + 1 + B};
+        String[] heads = {LEFT, "1111 3113111133 1", A + 1 + ONE};
+        String[] tails = {RIGHT, "3113111133 311", ONE + 1 + B};
+        for (int symbology = 0; symbology < 3; symbology++) {
+            for (String[] rows : new String[][] {wholes, heads, tails}) {
+                String row = "1 q" + rows[symbology] + "q 1";
+                Checks.sees(symbology, row, "");
+                Checks.sees(symbology, Checks.backwards(row), "");
+            }
+        }
     }
 
     // "Interleaved 2 of 5: a bar x, a space y and a bar z with 2 * x >= 3 * y and 2 * x >= 3 * z"

@@ -536,7 +536,7 @@ public final class ReadingsTest {
     }
 
     private static void wideSpread() {
-        // Widths of thousands: 100 * (B * T - W * U) does not fit into an int.
+        // Widths of thousands.
         BarcodeEngine y = new BarcodeEngine();
         int scan = Checks.print(y, 2, "A12345678901234B", 40, 0, 0);
         for (int i = 1; i < y.widthCount(scan) - 1; i++) {
